@@ -28,15 +28,18 @@ public final class LetterExchange {
     private final Exchanger exchanger = new Exchanger();
     private final History history = new History();
     private final Book book = new Book();
+    private final Graph graph = new Graph();
     private final Walk walk = new Walk();
     private final Turns turns = new Turns();
     private final State first = new State();
     private final State[] images = {new State(), new State()};
     private final boolean[] kept = new boolean[IMAGES];
     private final int[] imageSeeds = new int[IMAGES];
+    private final int[] codesNow = new int[LETTERS_MOST];
     private State now = new State();
     private State spare = new State();
     private int theSeed = 0;
+    private boolean graphIsOld = true;
     private boolean walkIsOld = true;
 
     public LetterExchange() {
@@ -81,7 +84,7 @@ public final class LetterExchange {
             case 4:
                 return isOpen() ? NONE : walk.count;
             case 5:
-                return isOpen() ? NONE : walk.allLetters;
+                return isOpen() ? NONE : graph.allLetters;
             case 6:
                 return isOpen() ? NONE : walk.far();
             case 7:
@@ -116,7 +119,7 @@ public final class LetterExchange {
             case 3:
                 return now.shape.boundTo(i);
             case 4:
-                return now.shape.placeOf(i);
+                return placeNow(i);
             case 5:
                 return exchangesIntoSpare(i) ? spare.above[i] : NONE;
             case 6:
@@ -163,7 +166,7 @@ public final class LetterExchange {
         }
         history.remember(now);
         takeSpare();
-        return now.shape.placeOf(k);
+        return placeNow(k);
     }
 
     public int start() {
@@ -223,7 +226,7 @@ public final class LetterExchange {
         if (isNoStand(s) || isNoLetter(k)) {
             return UNKNOWN;
         }
-        return walk.leads[s * LETTERS_MOST + k];
+        return walk.lead(graph, s, k);
     }
 
     public int away(int steps) {
@@ -237,7 +240,7 @@ public final class LetterExchange {
         if (isNoLetter(number)) {
             return OUTSIDE;
         }
-        return walk.rowNumber(s, k, number) + LIFT;
+        return graph.rowNumber(walk.stands[s], k, number) + LIFT;
     }
 
     // ---- the book
@@ -303,6 +306,7 @@ public final class LetterExchange {
         for (int i = 0; i < IMAGES; i++) {
             kept[i] = false;
         }
+        graphIsOld = true;
     }
 
     private boolean isNoLetter(int i) {
@@ -314,11 +318,15 @@ public final class LetterExchange {
     }
 
     private boolean isOpen() {
-        if (walkIsOld) {
-            walk.from(now.shape, scales.well);
+        if (graphIsOld) {
+            graph.find(now.shape, scales.well);
+            graphIsOld = false;
+        }
+        if (walkIsOld && !graph.open) {
+            walk.number(graph, graph.standOf(now.shape));
             walkIsOld = false;
         }
-        return walk.open;
+        return graph.open;
     }
 
     /** Whether LETTER k can be EXCHANGED; if so, the spare holds what is so then. */
@@ -331,6 +339,11 @@ public final class LetterExchange {
         now = spare;
         spare = before;
         walkIsOld = true;
+    }
+
+    private int placeNow(int i) {
+        now.shape.fillCodes(codesNow);
+        return placeAmong(codesNow, now.shape.count, i);
     }
 
     private int draw(int n) {
@@ -361,6 +374,17 @@ public final class LetterExchange {
             code = code * FIGURES + cells[cell(i, m)] + FIGURE_LIFT;
         }
         return code;
+    }
+
+    /** The place of LETTER i as RANKED, from the codes of all D ROWS. */
+    private static int placeAmong(int[] codes, int count, int i) {
+        int place = 0;
+        for (int j = 0; j < count; j++) {
+            if (codes[j] < codes[i] || codes[j] == codes[i] && j < i) {
+                place++;
+            }
+        }
+        return place;
     }
 
     /** THE TEXT, and the reading of it. */
@@ -596,17 +620,10 @@ public final class LetterExchange {
             return codeOf(rows, i, count);
         }
 
-        /** The place of LETTER i as RANKED. */
-        int placeOf(int i) {
-            int own = code(i);
-            int place = 0;
-            for (int j = 0; j < count; j++) {
-                int other = code(j);
-                if (other < own || other == own && j < i) {
-                    place++;
-                }
+        void fillCodes(int[] codes) {
+            for (int i = 0; i < count; i++) {
+                codes[i] = code(i);
             }
-            return place;
         }
 
         /** Whether no two LETTERS hang on one another so strongly that STANDS have no end. */
@@ -910,8 +927,11 @@ public final class LetterExchange {
 
         private final Shape one = new Shape();
         private final Shape other = new Shape();
+        private final int[] startCodes = new int[LETTERS_MOST];
+        private final int[] codes = new int[LETTERS_MOST];
 
         int count(Shape start, int i, int j) {
+            fillRanked(startCodes, start);
             Shape before = one;
             Shape after = other;
             before.copyFrom(start);
@@ -919,7 +939,8 @@ public final class LetterExchange {
                 if (!after.becomeExchanged(before, turn % 2 == 1 ? i : j)) {
                     return NONE;
                 }
-                if (haveSameRows(start, after)) {
+                fillRanked(codes, after);
+                if (areAlike(startCodes, codes, start.count)) {
                     return turn;
                 }
                 Shape done = before;
@@ -929,97 +950,121 @@ public final class LetterExchange {
             return NONE;
         }
 
-        /** As RANKED: each LETTER of the one has the ROW of the LETTER at its place in the other. */
-        private static boolean haveSameRows(Shape a, Shape b) {
-            for (int i = 0; i < a.count; i++) {
-                int place = a.placeOf(i);
-                for (int j = 0; j < b.count; j++) {
-                    if (b.placeOf(j) == place && b.code(j) != a.code(i)) {
-                        return false;
-                    }
+        /** The codes of the D ROWS, the least first. */
+        private static void fillRanked(int[] ranked, Shape shape) {
+            for (int i = 0; i < shape.count; i++) {
+                int code = shape.code(i);
+                int place = i;
+                while (place > 0 && ranked[place - 1] > code) {
+                    ranked[place] = ranked[place - 1];
+                    place--;
+                }
+                ranked[place] = code;
+            }
+        }
+
+        private static boolean areAlike(int[] one, int[] other, int count) {
+            for (int i = 0; i < count; i++) {
+                if (one[i] != other[i]) {
+                    return false;
                 }
             }
             return true;
         }
     }
 
-    /** All STANDS, WALKED from what is so now. */
-    private static final class Walk {
+    /**
+     * All STANDS that there are. They are found once for each text: every EXCHANGE can be gone back,
+     * so from each STAND one comes to the same ones, and whether they are OPEN is the same too.
+     */
+    private static final class Graph {
         private static final int MOST = 200;
         // A STAND is kept as the codes of its D ROWS and behind them of its TABLE's rows, as RANKED.
         private static final int CODES = 2 * LETTERS_MOST;
 
         int count = 0;
+        int letters = LETTERS_LEAST;
         int allLetters = 0;
         boolean open = true;
-        final int[] steps = new int[MOST];
-        final int[] parents = new int[MOST];
-        final int[] ways = new int[MOST];
         final int[] leads = new int[MOST * LETTERS_MOST];
         private final int[] codes = new int[MOST * CODES];
         private final int[] probe = new int[CODES];
+        private final int[] ownCodes = new int[LETTERS_MOST];
+        private final int[] places = new int[LETTERS_MOST];
         private final int[] ranked = new int[LETTERS_MOST];
         private final int[] seen = new int[MOST * LETTERS_MOST];
         private final Shape here = new Shape();
         private final Shape there = new Shape();
-        private int letters = 0;
 
-        void from(Shape start, boolean well) {
+        void find(Shape start, boolean well) {
             letters = start.count;
             count = 0;
             open = !well || !start.isMild() || !reachesEnd(start);
             allLetters = open ? 0 : countAllLetters();
         }
 
+        /** NONE: there is no such STAND. */
+        int standOf(Shape shape) {
+            fillProbe(shape);
+            return standOfProbe();
+        }
+
         private boolean reachesEnd(Shape start) {
-            numberOf(start, NONE, NONE);
+            fillProbe(start);
+            addProbe();
             for (int s = 0; s < count && s < MOST; s++) {
                 load(s);
                 for (int k = 0; k < letters; k++) {
-                    if (!there.becomeExchanged(here, k) || !there.isMild()) {
+                    if (leads[s * LETTERS_MOST + k] == NONE && !findLead(s, k)) {
                         return false;
                     }
-                    int number = numberOf(there, s, k);
-                    if (number == NONE) {
-                        return false;
-                    }
-                    leads[s * LETTERS_MOST + k] = number;
                 }
             }
             return true;
         }
 
-        /** The number of a STAND, a new one if it is new. NONE: one too many. */
-        private int numberOf(Shape shape, int parent, int way) {
-            fillProbe(shape);
-            for (int s = 0; s < count; s++) {
-                if (isProbe(s)) {
-                    return s;
+        /** Of the STAND that is here. False: OPEN. */
+        private boolean findLead(int s, int k) {
+            if (!there.becomeExchanged(here, k) || !there.isMild()) {
+                return false;
+            }
+            int found = standOf(there);
+            if (found == NONE) {
+                if (count >= MOST) {
+                    return false;
                 }
+                found = addProbe();
             }
-            if (count >= MOST) {
-                return NONE;
-            }
-            System.arraycopy(probe, 0, codes, count * CODES, CODES);
-            parents[count] = parent;
-            ways[count] = way;
-            steps[count] = parent == NONE ? 0 : steps[parent] + 1;
-            count++;
-            return count - 1;
+            leads[s * LETTERS_MOST + k] = found;
+            // Twice EXCHANGED, the same LETTER, all is as it was.
+            leads[found * LETTERS_MOST + places[k]] = s;
+            return true;
         }
 
         private void fillProbe(Shape shape) {
+            shape.fillCodes(ownCodes);
             for (int i = 0; i < letters; i++) {
-                ranked[shape.placeOf(i)] = i;
+                places[i] = placeAmong(ownCodes, letters, i);
+                ranked[places[i]] = i;
             }
             for (int a = 0; a < letters; a++) {
                 int code = 0;
                 for (int b = 0; b < letters; b++) {
                     code = code * FIGURES + shape.table[cell(ranked[a], ranked[b])] + FIGURE_LIFT;
                 }
-                probe[a] = shape.code(ranked[a]);
+                probe[a] = ownCodes[ranked[a]];
                 probe[LETTERS_MOST + a] = code;
             }
+        }
+
+        private int standOfProbe() {
+            for (int s = 0; s < count; s++) {
+                // Most STANDS differ in the first code: that saves most of the calls.
+                if (codes[s * CODES] == probe[0] && isProbe(s)) {
+                    return s;
+                }
+            }
+            return NONE;
         }
 
         private boolean isProbe(int s) {
@@ -1030,6 +1075,16 @@ public final class LetterExchange {
                 }
             }
             return true;
+        }
+
+        /** Only while there is room. */
+        private int addProbe() {
+            System.arraycopy(probe, 0, codes, count * CODES, CODES);
+            for (int k = 0; k < LETTERS_MOST; k++) {
+                leads[count * LETTERS_MOST + k] = NONE;
+            }
+            count++;
+            return count - 1;
         }
 
         /** The STAND comes here, its LETTERS numbered as RANKED. */
@@ -1072,6 +1127,60 @@ public final class LetterExchange {
             return false;
         }
 
+        int rowNumber(int s, int k, int number) {
+            int code = codes[s * CODES + k];
+            for (int m = letters - 1; m > number; m--) {
+                code /= FIGURES;
+            }
+            return code % FIGURES - FIGURE_LIFT;
+        }
+    }
+
+    /** The numbers of the STANDS, as they are WALKED from what is so now. */
+    private static final class Walk {
+        int count = 0;
+        // Of each number the STAND of the graph, and of each STAND of the graph its number.
+        final int[] stands = new int[Graph.MOST];
+        final int[] numbers = new int[Graph.MOST];
+        final int[] steps = new int[Graph.MOST];
+        final int[] parents = new int[Graph.MOST];
+        final int[] ways = new int[Graph.MOST];
+
+        void number(Graph graph, int start) {
+            count = 0;
+            for (int s = 0; s < graph.count; s++) {
+                numbers[s] = NONE;
+            }
+            if (start == NONE) {
+                return;
+            }
+            add(start, NONE, NONE);
+            for (int s = 0; s < count && s < Graph.MOST; s++) {
+                for (int k = 0; k < graph.letters; k++) {
+                    int found = graph.leads[stands[s] * LETTERS_MOST + k];
+                    // In a graph that is not OPEN no lead is missing.
+                    if (found >= 0 && numbers[found] == NONE) {
+                        add(found, s, k);
+                    }
+                }
+            }
+        }
+
+        private void add(int standOfGraph, int parent, int way) {
+            numbers[standOfGraph] = count;
+            stands[count] = standOfGraph;
+            parents[count] = parent;
+            ways[count] = way;
+            steps[count] = parent == NONE ? 0 : steps[parent] + 1;
+            count++;
+        }
+
+        /** The number of the STAND to which an EXCHANGE in the STAND of number s leads. */
+        int lead(Graph graph, int s, int k) {
+            int found = graph.leads[stands[s] * LETTERS_MOST + k];
+            return found >= 0 ? numbers[found] : NONE;
+        }
+
         /** STANDS are come to in the order of their steps, so the last one is as far as any. */
         int far() {
             return count > 0 ? steps[count - 1] : 0;
@@ -1085,14 +1194,6 @@ public final class LetterExchange {
                 }
             }
             return found;
-        }
-
-        int rowNumber(int s, int k, int number) {
-            int code = codes[s * CODES + k];
-            for (int m = letters - 1; m > number; m--) {
-                code /= FIGURES;
-            }
-            return code % FIGURES - FIGURE_LIFT;
         }
     }
 }

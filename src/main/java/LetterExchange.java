@@ -207,7 +207,7 @@ public final class LetterExchange {
     // ---- stands
 
     public int stand(int s, int what) {
-        if (isNoStand(s)) {
+        if (isOpen() || walk.lacks(s)) {
             return UNKNOWN;
         }
         switch (what) {
@@ -223,7 +223,7 @@ public final class LetterExchange {
     }
 
     public int next(int s, int k) {
-        if (isNoStand(s) || isNoLetter(k)) {
+        if (isOpen() || walk.lacks(s) || isNoLetter(k)) {
             return UNKNOWN;
         }
         return walk.lead(graph, s, k);
@@ -234,7 +234,7 @@ public final class LetterExchange {
     }
 
     public int standRow(int s, int k, int number) {
-        if (isNoStand(s) || isNoLetter(k)) {
+        if (isOpen() || walk.lacks(s) || isNoLetter(k)) {
             return UNKNOWN;
         }
         if (isNoLetter(number)) {
@@ -313,10 +313,6 @@ public final class LetterExchange {
         return i < 0 || i >= now.shape.count;
     }
 
-    private boolean isNoStand(int s) {
-        return isOpen() || s < 0 || s >= walk.count;
-    }
-
     private boolean isOpen() {
         if (graphIsOld) {
             graph.find(now.shape, scales.well);
@@ -342,8 +338,11 @@ public final class LetterExchange {
     }
 
     private int placeNow(int i) {
-        now.shape.fillCodes(codesNow);
-        return placeAmong(codesNow, now.shape.count, i);
+        int count = now.shape.count;
+        for (int j = 0; j < count; j++) {
+            codesNow[j] = now.shape.code(j);
+        }
+        return placeAmong(codesNow, count, i);
     }
 
     private int draw(int n) {
@@ -620,12 +619,6 @@ public final class LetterExchange {
             return codeOf(rows, i, count);
         }
 
-        void fillCodes(int[] codes) {
-            for (int i = 0; i < count; i++) {
-                codes[i] = code(i);
-            }
-        }
-
         /** Whether no two LETTERS hang on one another so strongly that STANDS have no end. */
         boolean isMild() {
             for (int i = 0; i < count; i++) {
@@ -699,23 +692,18 @@ public final class LetterExchange {
         }
 
         private boolean isSmallInLowestTerms() {
-            long divisor = greatestDivisor(above, below);
+            long divisor = above;
+            long rest = below;
+            for (int step = 0; step < EUCLID_STEPS && rest != 0; step++) {
+                long left = divisor % rest;
+                divisor = rest;
+                rest = left;
+            }
             if (divisor > 1) {
                 above /= divisor;
                 below /= divisor;
             }
             return above <= MOST && below <= MOST;
-        }
-
-        private static long greatestDivisor(long one, long other) {
-            long a = one;
-            long b = other;
-            for (int step = 0; step < EUCLID_STEPS && b != 0; step++) {
-                long rest = a % b;
-                a = b;
-                b = rest;
-            }
-            return a;
         }
     }
 
@@ -999,8 +987,22 @@ public final class LetterExchange {
         void find(Shape start, boolean well) {
             letters = start.count;
             count = 0;
-            open = !well || !start.isMild() || !reachesEnd(start);
-            allLetters = open ? 0 : countAllLetters();
+            open = true;
+            if (!well || !start.isMild()) {
+                return;
+            }
+            fillProbe(start);
+            addProbe();
+            for (int s = 0; s < count && s < MOST; s++) {
+                load(s);
+                for (int k = 0; k < letters; k++) {
+                    if (leads[s * LETTERS_MOST + k] == NONE && !findLead(s, k)) {
+                        return;
+                    }
+                }
+            }
+            open = false;
+            allLetters = countAllLetters();
         }
 
         /** NONE: there is no such STAND. */
@@ -1009,26 +1011,13 @@ public final class LetterExchange {
             return standOfProbe();
         }
 
-        private boolean reachesEnd(Shape start) {
-            fillProbe(start);
-            addProbe();
-            for (int s = 0; s < count && s < MOST; s++) {
-                load(s);
-                for (int k = 0; k < letters; k++) {
-                    if (leads[s * LETTERS_MOST + k] == NONE && !findLead(s, k)) {
-                        return false;
-                    }
-                }
-            }
-            return true;
-        }
-
         /** Of the STAND that is here. False: OPEN. */
         private boolean findLead(int s, int k) {
             if (!there.becomeExchanged(here, k) || !there.isMild()) {
                 return false;
             }
-            int found = standOf(there);
+            fillProbe(there);
+            int found = standOfProbe();
             if (found == NONE) {
                 if (count >= MOST) {
                     return false;
@@ -1042,7 +1031,9 @@ public final class LetterExchange {
         }
 
         private void fillProbe(Shape shape) {
-            shape.fillCodes(ownCodes);
+            for (int i = 0; i < letters; i++) {
+                ownCodes[i] = codeOf(shape.rows, i, letters);
+            }
             for (int i = 0; i < letters; i++) {
                 places[i] = placeAmong(ownCodes, letters, i);
                 ranked[places[i]] = i;
@@ -1173,6 +1164,10 @@ public final class LetterExchange {
             ways[count] = way;
             steps[count] = parent == NONE ? 0 : steps[parent] + 1;
             count++;
+        }
+
+        boolean lacks(int s) {
+            return s < 0 || s >= count;
         }
 
         /** The number of the STAND to which an EXCHANGE in the STAND of number s leads. */

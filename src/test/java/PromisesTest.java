@@ -1,4 +1,8 @@
-/** Each promise of the document by calls whose answers were found by hand. */
+/**
+ * Each promise of the document by calls whose answers were mostly found by hand. Not by hand: the texts at
+ * the bounds of promise 10, which a search with the Model found, and FAR of the four letters in a star (6),
+ * which was taken from the program, the Model agreeing.
+ */
 public final class PromisesTest {
     private static final int NONE = LetterExchange.NONE;
     private static final int UNKNOWN = LetterExchange.UNKNOWN;

@@ -64,8 +64,11 @@ final class Model {
     private static final class Refused extends Exception {
         private static final long serialVersionUID = 1L;
 
-        Refused(String why) {
+        final String detail;
+
+        Refused(String why, String detail) {
             super(why);
+            this.detail = detail;
         }
     }
 
@@ -209,10 +212,11 @@ final class Model {
         return null;
     }
 
-    private static BigInteger[] lowest(BigInteger above, BigInteger below) throws Refused {
+    private static BigInteger[] lowest(BigInteger above, BigInteger below, String step) throws Refused {
         BigInteger g = above.gcd(below);
         BigInteger[] f = {above.divide(g), below.divide(g)};
-        if (f[0].compareTo(BILLION) > 0 || f[1].compareTo(BILLION) > 0) throw new Refused("worth");
+        if (f[0].compareTo(BILLION) > 0) throw new Refused("worth", step + " above");
+        if (f[1].compareTo(BILLION) > 0) throw new Refused("worth", step + " below");
         return f;
     }
 
@@ -223,13 +227,14 @@ final class Model {
             for (int i = 0; i < s.n; i++) {
                 int times = side == 0 ? s.b[i][k] : -s.b[i][k];
                 for (int t = 0; t < times; t++) {
-                    pq[side] = lowest(pq[side][0].multiply(s.worth[i][0]), pq[side][1].multiply(s.worth[i][1]));
+                    pq[side] = lowest(pq[side][0].multiply(s.worth[i][0]), pq[side][1].multiply(s.worth[i][1]),
+                            side == 0 ? "P" : "Q");
                 }
             }
         }
         BigInteger[] sum = lowest(pq[0][0].multiply(pq[1][1]).add(pq[1][0].multiply(pq[0][1])),
-                pq[0][1].multiply(pq[1][1]));
-        return lowest(sum[0].multiply(s.worth[k][1]), sum[1].multiply(s.worth[k][0]));
+                pq[0][1].multiply(pq[1][1]), "sum");
+        return lowest(sum[0].multiply(s.worth[k][1]), sum[1].multiply(s.worth[k][0]), "quotient");
     }
 
     private static int[][] newTable(int[][] b, int k) {
@@ -263,12 +268,20 @@ final class Model {
     }
 
     private static void within(int[][] numbers, String why) throws Refused {
+        int least = 0;
+        int greatest = 0;
         for (int[] row : numbers) {
-            for (int v : row) if (Math.abs(v) > 99) throw new Refused(why);
+            for (int v : row) {
+                least = Math.min(least, v);
+                greatest = Math.max(greatest, v);
+            }
         }
+        String over = (greatest > 99 ? " " + greatest : "") + (least < -99 ? " " + least : "");
+        if (!over.isEmpty()) throw new Refused(why, why + over);
     }
 
-    private static Snap exchanged(Snap s, int k) throws Refused {
+    /** THE TABLE and ROWS behind an EXCHANGE, whatever numbers come. */
+    private static Snap coming(Snap s, int k) {
         Snap r = s.copy();
         r.b = newTable(s.b, k);
         r.d = newD(s.b, s.d, k);
@@ -287,6 +300,11 @@ final class Model {
             for (int i = 0; i < s.n; i++) sum += Math.max(green ? -s.b[i][k] : s.b[i][k], 0) * s.g[i][m];
             r.g[k][m] = sum - s.g[k][m];
         }
+        return r;
+    }
+
+    private static Snap exchanged(Snap s, int k) throws Refused {
+        Snap r = coming(s, k);
         within(r.b, "table");
         within(r.d, "D");
         within(r.c, "C");
@@ -294,6 +312,27 @@ final class Model {
         r.worth[k] = newWorth(s, k);
         r.exchanges++;
         return r;
+    }
+
+    /** Why an EXCHANGE would be refused, every reason, as "D 100" or "quotient above"; empty: it is not. */
+    List<String> reasons(int k) {
+        Snap r = coming(now, k);
+        int[][][] numbers = {r.b, r.d, r.c, r.g};
+        String[] names = {"table", "D", "C", "G"};
+        List<String> reasons = new ArrayList<>();
+        for (int m = 0; m < numbers.length; m++) {
+            try {
+                within(numbers[m], names[m]);
+            } catch (Refused e) {
+                reasons.add(e.detail);
+            }
+        }
+        try {
+            newWorth(now, k);
+        } catch (Refused e) {
+            reasons.add(e.detail);
+        }
+        return reasons;
     }
 
     private Snap tried(int k) {

@@ -163,34 +163,7 @@ public final class RandomRunsTest {
     private int ask(String name, int... a) {
         calls++;
         int want = model.call(name, a);
-        check.due("run " + run + ", call " + calls + ": " + name + Arrays.toString(a), answer(name, a), want);
+        check.due("run " + run + ", call " + calls + ": " + name + Arrays.toString(a), Check.call(x, name, a), want);
         return want;
-    }
-
-    private int answer(String name, int[] a) {
-        switch (name) {
-            case "feed": return x.feed(a[0]);
-            case "letters": return x.letters();
-            case "fault": return x.fault();
-            case "told": return x.told(a[0]);
-            case "table": return x.table(a[0], a[1]);
-            case "letter": return x.letter(a[0], a[1]);
-            case "row": return x.row(a[0], a[1], a[2]);
-            case "byTurns": return x.byTurns(a[0], a[1]);
-            case "exchange": return x.exchange(a[0]);
-            case "start": return x.start();
-            case "drift": return x.drift(a[0]);
-            case "undo": return x.undo(a[0]);
-            case "stand": return x.stand(a[0], a[1]);
-            case "next": return x.next(a[0], a[1]);
-            case "away": return x.away(a[0]);
-            case "standRow": return x.standRow(a[0], a[1], a[2]);
-            case "write": return x.write(a[0], a[1]);
-            case "tear": return x.tear();
-            case "seed": return x.seed(a[0]);
-            case "keep": return x.keep(a[0]);
-            case "goBack": return x.goBack(a[0]);
-            default: throw new IllegalStateException(name);
-        }
     }
 }

@@ -150,16 +150,18 @@ public final class ExchangeBoundsTest {
 
     private static void aboveThousandMillion() {
         check.sentence("It is refused, if a number above 1000000000 would come");
-        refused("P above", "n2;b0123;x08;", "10", 1);
-        refused("Q above", "n2;b1032;x08;", "10", 1);
-        refused("P above", "n3;b0133;b2111;x04;", "010", 2);
-        refused("P above", "n3;b0233;b1231;x04;", "020", 1);
-        refused("P below", "n3;b1013;b2031;x03;x27;", "20", 1);
-        refused("Q below", "n3;b0131;b0213;x05;x12;x27;", "20", 1);
-        refused("sum above", "n3;b0133;b2031;", "1020", 1);
-        refused("sum below", "n4;b3133;b3212;x06;x28;x33;", "231", 2);
-        refused("quotient above", "n3;b0133;b0233;x14;x29;", "210", 1);
-        refused("quotient below", "n3;b0131;b2033;x18;x29;", "20", 1);
+        refused("P above 18854859969", "n2;b0123;x08;", "10", 1);
+        refused("Q above 18854859969", "n2;b1032;x08;", "10", 1);
+        refused("P above 1911240521", "n3;b0133;b2111;x04;", "010", 2);
+        refused("P above 1911240521", "n3;b0233;b1231;x04;", "020", 1);
+        refused("P below 1089547389", "n3;b1013;b2031;x03;x27;", "20", 1);
+        refused("Q below 5044200875", "n3;b0131;b0213;x05;x12;x27;", "20", 1);
+        refused("sum above 1001404928", "n3;b0133;b2031;", "1020", 1);
+        refused("sum below 1289945088", "n4;b3133;b3212;x06;x28;x33;", "231", 2);
+        refused("quotient above 1552874978", "n3;b0133;b0233;x14;x29;", "210", 1);
+        refused("quotient below 1549681956", "n3;b0131;b2033;x18;x29;", "20", 1);
+        refused("sum above 1000000001", "n3;b0132;b1231;x14;x23;", "1220", 2);
+        refused("sum above 1000000001", "n4;b2022;b2112;b1332;x06;x23;x39;", "121", 3);
         LetterExchange x = taken("n4;b0122;b0233;b1233;b1333;x04;x35;", "031", 2);
         due("1000000000 itself, below", x.letter(2, 1), 1000000000);
         // 1000000000 comes on the way: once above, once below.
@@ -170,8 +172,8 @@ public final class ExchangeBoundsTest {
     private static void letterByLetter() {
         check.sentence("P, Q are multiplied LETTER by LETTER, rising, one by one");
         // In falling order the first two would be taken, and the last one would be refused.
-        refused("P above", "n4;b2121;b3031;b1322;x28;x38;", "31", 0);
-        refused("P below", "n4;b0133;b0222;b3033;b1333;x18;", "120", 3);
+        refused("P above 1073741824", "n4;b2121;b3031;b1322;x28;x38;", "31", 0);
+        refused("P below 1073741824", "n4;b0133;b0222;b3033;b1333;x18;", "120", 3);
         taken("n4;b0233;b3022;b1322;x09;x19;", "03", 2);
     }
 

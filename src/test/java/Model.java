@@ -215,8 +215,8 @@ final class Model {
     private static BigInteger[] lowest(BigInteger above, BigInteger below, String step) throws Refused {
         BigInteger g = above.gcd(below);
         BigInteger[] f = {above.divide(g), below.divide(g)};
-        if (f[0].compareTo(BILLION) > 0) throw new Refused("worth", step + " above");
-        if (f[1].compareTo(BILLION) > 0) throw new Refused("worth", step + " below");
+        if (f[0].compareTo(BILLION) > 0) throw new Refused("worth", step + " above " + f[0]);
+        if (f[1].compareTo(BILLION) > 0) throw new Refused("worth", step + " below " + f[1]);
         return f;
     }
 
@@ -314,7 +314,7 @@ final class Model {
         return r;
     }
 
-    /** Why an EXCHANGE would be refused, every reason, as "D 100" or "quotient above"; empty: it is not. */
+    /** Why an EXCHANGE would be refused, every reason, as "D 100" or "sum above 1000000001"; empty: it is not. */
     List<String> reasons(int k) {
         Snap r = coming(now, k);
         int[][][] numbers = {r.b, r.d, r.c, r.g};

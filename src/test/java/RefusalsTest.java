@@ -23,6 +23,7 @@ public final class RefusalsTest {
 
     public static void main(String[] args) {
         numbers();
+        fromZeroOn();
         order();
         changesNothing();
         check.end();
@@ -36,6 +37,26 @@ public final class RefusalsTest {
         check.due("FULL", FULL, -1000000004);
         check.sentence("NONE is -1.");
         check.due("NONE", NONE, -1);
+    }
+
+    private static void fromZeroOn() {
+        check.sentence("What has a number has it from 0 on.");
+        LetterExchange x = Check.told("n4;");
+        check.due("the first letter", x.letter(0, 0), 1);
+        check.due("none ahead of it", x.letter(-1, 0), UNKNOWN);
+        check.due("the last letter", x.letter(3, 0), 1);
+        check.due("none behind it", x.letter(4, 0), UNKNOWN);
+        check.due("the first stand", x.stand(0, 0), 0);
+        check.due("none ahead of it", x.stand(-1, 0), UNKNOWN);
+        check.due("the last stand", x.stand(15, 0), 4);
+        check.due("none behind it", x.stand(16, 0), UNKNOWN);
+        check.due("the first image", x.keep(0), 1);
+        check.due("none ahead of it", x.keep(-1), UNKNOWN);
+        check.due("the last image", x.keep(1), 1);
+        check.due("none behind it", x.keep(2), UNKNOWN);
+        check.due("the first entry", x.write(0, 0) * 0 + x.told(8), 0);
+        Check.tell(x, "q");
+        check.due("the first letter of a text", x.fault(), 0);
     }
 
     private static void order() {

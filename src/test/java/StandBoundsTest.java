@@ -24,6 +24,7 @@ public final class StandBoundsTest {
 
     public static void main(String[] args) {
         sameStands();
+        fromWhatIsSoNow();
         standZero();
         rankedThere();
         untilNoneIsNew();
@@ -84,12 +85,43 @@ public final class StandBoundsTest {
         for (String path = "1203021"; !path.isEmpty(); path = path.substring(1)) {
             due("steps of stand 0", x.stand(0, 0), 0);
             due("one is 0 steps away", x.away(0), 1);
-            for (int i = 0; i < 4; i++) {
-                for (int k = 0; k < 4; k++) {
-                    due("the row of stand 0", x.standRow(0, x.letter(i, 4), k), x.row(i, 0, k));
-                }
-            }
+            isStandZero("the row of stand 0", x);
             x.exchange(path.charAt(0) - '0');
+        }
+    }
+
+    private static void fromWhatIsSoNow() {
+        check.sentence("STANDS are what can be come to by EXCHANGES from what is so now");
+        LetterExchange x = Check.told("n3;b0111;");
+        isStandZero("as told", x);
+        x.keep(0);
+        x.exchange(2);
+        isStandZero("behind exchange()", x);
+        x.undo(1);
+        isStandZero("behind undo()", x);
+        x.drift(3);
+        isStandZero("behind drift()", x);
+        x.keep(1);
+        x.start();
+        isStandZero("behind start()", x);
+        x.exchange(0);
+        x.goBack(1);
+        isStandZero("behind goBack()", x);
+        x.goBack(0);
+        isStandZero("behind goBack() again", x);
+        x.exchange(0);
+        Check.tell(x, "n2");
+        isStandZero("behind a text with a fault", x);
+        x.exchange(7);
+        isStandZero("behind what was refused", x);
+        Check.tell(x, "n4;b2311;");
+        isStandZero("behind a text", x);
+    }
+
+    private static void isStandZero(String when, LetterExchange x) {
+        int n = x.told(0);
+        for (int i = 0; i < n; i++) {
+            for (int k = 0; k < n; k++) due(when, x.standRow(0, x.letter(i, 4), k), x.row(i, 0, k));
         }
     }
 
